@@ -566,13 +566,16 @@ public final class BallBox {
     private boolean readRow(Tape tape) {
       tape.skipBlanks();
       int from = tape.at;
-      for (int kind = kindOf(tape.signAt(tape.at)); kind != State.OUTSIDE; kind = kindOf(tape.signAt(tape.at))) {
+      for (; tape.at < tape.length; tape.at++) {
+        int kind = kindOf(tape.signAt(tape.at));
+        if (kind == State.OUTSIDE) {
+          break;
+        }
         int x = tape.at - from;
         if (x >= LONGEST_LINE || draft.hasHole(kind)) {
           return tape.blame(tape.at, Tape.WRONG_CELL);
         }
         draft.makeKind(State.spotOf(x, draft.rows), kind);
-        tape.at++;
       }
       int signs = tape.at - from;
       if (signs == 0) {
