@@ -1098,7 +1098,7 @@ public final class BallBox {
     static int howMany(int situation, int spot) {
       int many = 0;
       for (int ball = 0; ball < 3; ball++) {
-        if (spotIn(situation, ball) == spot) {
+        if ((situation >> 6 * ball & 63) == spot) {
           many++;
         }
       }
@@ -1295,6 +1295,7 @@ public final class BallBox {
     private final long[] words = new long[8];
     private final long[] keys = new long[3];
     private final int[] order = new int[3];
+    private int lined;
     int ruleCount;
     int hits;
     int falls;
@@ -1317,36 +1318,37 @@ public final class BallBox {
       if (way < 0 || way >= STEPS.length) {
         return situation;
       }
-      int many = lineUp(state, situation, way);
+      boolean ruled = state.force >= 0 && state.force < ruleCount;
+      lined = 0;
+      for (int ball = 0; ball < state.balls; ball++) {
+        int spot = State.spotIn(situation, ball);
+        if (!State.isFallen(spot)) {
+          if (ruled) {
+            tellWords(state, situation, ball, way);
+          }
+          lineUp(ball, ruled ? rules[state.force].keyBy(words) : lag(spot, way));
+        }
+      }
       int now = situation;
-      for (int i = 0; i < many; i++) {
+      for (int i = 0; i < lined; i++) {
         now = rollOne(state, now, order[i], STEPS[way]);
       }
       return now;
     }
 
-    private int lineUp(State state, int situation, int way) {
-      boolean ruled = state.force >= 0 && state.force < ruleCount;
-      int many = 0;
-      for (int ball = 0; ball < state.balls; ball++) {
-        int spot = State.spotIn(situation, ball);
-        if (!State.isFallen(spot)) {
-          long key = lag(spot, way);
-          if (ruled) {
-            tellWords(state, situation, ball, way);
-            key = rules[state.force].keyBy(words);
-          }
-          int at = many;
-          for (; at > 0 && keys[at - 1] > key; at--) {
-            keys[at] = keys[at - 1];
-            order[at] = order[at - 1];
-          }
-          keys[at] = key;
-          order[at] = ball;
-          many++;
-        }
+    /** Behind those with the same key, which have lesser numbers. */
+    private void lineUp(int ball, long key) {
+      int at = lined;
+      if (at >= order.length) {
+        return;
       }
-      return many;
+      for (; at > 0 && keys[at - 1] > key; at--) {
+        keys[at] = keys[at - 1];
+        order[at] = order[at - 1];
+      }
+      keys[at] = key;
+      order[at] = ball;
+      lined++;
     }
 
     /** The less the further a cell lies by that way. */

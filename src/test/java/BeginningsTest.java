@@ -80,6 +80,25 @@ public final class BeginningsTest {
     Check.due("from the cells that can", 1, v.hardest(0));
     Check.due("the cell", 2, v.hardest(1));
     Check.due("no balls", 0, Texts.boxed("row .").hardest(0));
+    wide();
+  }
+
+  /** Some 1200 beginnings, again and again. */
+  private static void wide() {
+    BallBox x = Texts.boxed("row ......;row ..#...;row ......;row ....1.;row .#....;row ....2.;ball 5 5;ball 0 0");
+    int first = x.hardest(0);
+    Oracle o = new Oracle();
+    o.feed(Texts.packed("row ......;row ..#...;row ......;row ....1.;row .#....;row ....2.;ball 5 5;ball 0 0"));
+    o.end(83);
+    Check.due("the oracle's box", 2, o.box());
+    for (int i = 0; i < 5; i++) {
+      for (int what = 0; what < 3; what++) {
+        Check.due("hardest " + what, o.hardest(what), x.hardest(what));
+      }
+      o.wall(i, 2, true);
+      Check.due("wall", true, x.wall(i, 2, true));
+    }
+    Check.due("some tips", true, first > 3);
   }
 
   private static void sound() {
@@ -128,8 +147,13 @@ public final class BeginningsTest {
     Check.due("no first", -2, x.fits(1));
     Check.due("no cells", 0, x.where(0));
     x.sound(-1, 0, 0);
+    Check.due("without sounds", 20, x.fits(0));
     x.sound(0, 0, 0);
     Check.due("up: nothing rolls", 6 + 4, x.fits(0));
+    BallBox walls = Texts.boxed("row #");
+    Check.due("no balls, no plain cell: one beginning", 1, walls.fits(0));
+    Check.due("it is all home", 0, walls.hardest(0));
+    Check.due("by no tips", 0, walls.blind(0, 0));
   }
 
   private static void fallenOnesToo() {

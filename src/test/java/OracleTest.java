@@ -25,6 +25,9 @@ public final class OracleTest {
       {"first ahead", "row .#....;row .....#;row ..##..;row #...#.;row .#...#;row ...#..;ball 1 5;ball 0 5;ball 1 2"},
       {"first ahead", "row .#....;row .....#;row ..##..;row #...#1;row .#...#;row 3..#2.;ball 1 5;ball 0 4;ball 1 2"},
       {"first x if way%2=0;first y", "row ...#..;row #....#;row ..#.#1;row ...#..;row .#..2#;row 3.#...;ball 5 1;ball 4 0;ball 0 3"},
+      {"first ahead", "row #...#.;row .#....;row #..#..;row ..#..#;row ...#..;row .#..#.;ball 1 2;ball 1 3;ball 5 0"},
+      {"first ahead", "row #...#.;row .#....;row #..#..;row ..#..#;row ...#..;row .#..#.;ball 4 3;ball 2 1;ball 3 1"},
+      {"first ahead", "row .1..#.;row .#....;row #..#..;row ..#..#;row ...#..;row .#..#3;ball 2 1;ball 2 4;ball 2 2"},
       {"first 1-ball", "row 2##;row ...;row #1#;ball 0 1;ball 1 1"},
       {"first ahead+ball", "row #1##;row #...;row ##2#;ball 1 1;ball 2 1"},
     };

@@ -41,7 +41,7 @@ public final class RollingTest {
       Check.due("cell kind " + i, kinds[i], x.cell(i % 3, i / 3, 0));
       Check.due("who lies " + i, i == 4 ? 0 : -1, x.cell(i % 3, i / 3, 1));
     }
-    int[][] wrong = {{-1, 0, 0}, {0, -1, 0}, {3, 0, 0}, {0, 2, 0}, {0, 0, 2}, {0, 0, -1}, {6, 0, 0}, {0, 6, 0}, {Integer.MAX_VALUE, 0, 0}, {0, Integer.MIN_VALUE, 1}};
+    int[][] wrong = {{-1, 0, 0}, {0, -1, 0}, {3, 0, 0}, {0, 2, 0}, {0, 0, 2}, {0, 0, -1}, {1, 1, -1}, {1, 1, 2}, {6, 0, 0}, {0, 6, 0}, {Integer.MAX_VALUE, 0, 0}, {0, Integer.MIN_VALUE, 1}};
     for (int[] k : wrong) {
       Check.due("cell " + k[0] + " " + k[1] + " " + k[2], -1, x.cell(k[0], k[1], k[2]));
     }
@@ -58,6 +58,10 @@ public final class RollingTest {
     Check.due("what 4", -1, x.ball(0, 4));
     Check.due("what -1", -1, x.ball(0, -1));
     Check.due("ball 3", -1, x.ball(3, 0));
+    Check.due("ball 3", -1, x.ball(3, 2));
+    Check.due("of two, ball 2", -1, Texts.boxed("row ..;ball 0 0;ball 1 0").ball(2, 2));
+    Check.due("steps, up and to the right", 3, Texts.boxed("row ...;row ..1;row ...;row ...;ball 1 3").ball(0, 3));
+    Check.due("steps, down and to the left", 3, Texts.boxed("row ...;row ...;row ...;row 1..;ball 1 1").ball(0, 3));
     Check.due("ball -1", -1, x.ball(-1, 0));
     Check.due("up", 12, x.tip(0));
     Check.due("ball 0 in hole 2: lost", 2, x.ball(0, 2));
@@ -88,6 +92,8 @@ public final class RollingTest {
     Check.due("no such ball", false, x.put(-1, 1, 0));
     Check.due("left", 10, x.tip(3));
     Check.due("home", 1, x.count(3));
+    Check.due("no such ball upon a bare cell", false, x.put(2, 1, 0));
+    Check.due("no such ball upon a bare cell", false, x.put(-1, 1, 0));
     Check.due("one that lies put", true, x.put(1, 1, 0));
     Check.due("one that fell put", true, x.put(0, 3, 0));
     Check.due("home", 0, x.count(3));
@@ -246,6 +252,8 @@ public final class RollingTest {
     Check.due("ball 0 first", 1, mayBy("first ball"));
     Check.due("alike: by their numbers", 1, mayBy("first 7"));
     Check.due("below 0", 2, mayBy("first 0-ball"));
+    Check.due("not", 1, mayBy("first 0-ball if not 1=1"));
+    Check.due("not, twice", 2, mayBy("first 0-ball if not not 1=1"));
     Check.due("the first without a test", 2, mayBy("first 1-ball;first ball"));
     Check.due("the first that holds", 2, mayBy("first ball if 1=2;first 1-ball if 1=1;first ball"));
     Check.due("none holds", 1, mayBy("first 0-ball if 1=2"));

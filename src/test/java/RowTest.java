@@ -147,6 +147,10 @@ public final class RowTest {
     x.tip(2);
     Check.due("lost", -2, x.fewest());
     Check.due("path of never", -2, x.path(0));
+    BallBox up = Texts.boxed("row ..1;row ...;ball 0 1");
+    Check.due("up, right", 2, up.fewest());
+    Check.due("up", 0, up.path(0));
+    Check.due("right", 1, up.path(1));
     BallBox y = Texts.boxed("row 1.#.;ball 3 0");
     Check.due("never", -2, y.fewest());
     y.wall(2, 0, false);
@@ -180,6 +184,13 @@ public final class RowTest {
     Check.due("walled", -2, x.walled(2));
     Check.due("book", 0, x.book());
     Check.due("pain", -3, x.pain(0));
+    String grid = "row #...#.;row .#....;row #..#..;row ..#..#;row ...#..;row .#..#.";
+    Texts.box(x, grid + ";ball 1 2;ball 1 3;ball 5 0");
+    Check.due("just 4000", -2, x.fewest());
+    Texts.box(x, grid + ";ball 4 3;ball 2 1;ball 3 1");
+    Check.due("just 4001", -3, x.fewest());
+    Texts.box(x, "row .1..#.;row .#....;row #..#..;row ..#..#;row ...#..;row .#..#3;ball 2 1;ball 2 4;ball 2 2");
+    Check.due("above 4000 with those that do not come", -2, x.fewest());
   }
 
   private static void chipped() {

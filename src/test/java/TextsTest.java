@@ -9,6 +9,7 @@ public final class TextsTest {
     ruleFaults();
     ruleLimits();
     afterFaults();
+    behindTheEnd();
     Check.finish("texts");
   }
 
@@ -102,6 +103,8 @@ public final class TextsTest {
     fault("   ", 3, 0);
     fault("ro", 0, 0);
     fault("rowx .", 0, 0);
+    fault("tow .", 0, 0);
+    fault("row .;call 0 0", 6, 0);
     fault("Row .", 0, 0);
     fault(" 1", 1, 0);
     fault("row", 3, 0);
@@ -182,6 +185,11 @@ public final class TextsTest {
     ruleFault("first z", 6, 0);
     ruleFault("first balls", 6, 0);
     ruleFault("first stepsx", 6, 0);
+    ruleFault("first xz", 6, 0);
+    ruleFault("first x{", 7, 0);
+    ruleFault("first 1:", 7, 0);
+    ruleFault("first `", 6, 0);
+    ruleFault("first x if x=1\u0000", 14, 0);
     ruleFault("first not", 6, 0);
     ruleFault("first first", 6, 0);
     ruleFault("first -1", 6, 0);
@@ -251,5 +259,51 @@ public final class TextsTest {
     Check.due("may by rule 0", 2, x.may(1));
     x.force(1);
     Check.due("may by rule 1", 1, x.may(1));
+    for (int i = 0; i < 20; i++) {
+      Check.due("a long one with a fault", Texts.fault(125, 0), Texts.rule(x, "first 1" + "+1".repeat(58) + "+ "));
+    }
+    Check.due("rule 2", 2, Texts.rule(x, "first 0 if 1=2;first 0-ball if not 1=1;first 1-ball"));
+    x.force(2);
+    Check.due("may by rule 2", 2, x.may(1));
+    Check.due("rule 3: 12 clauses, none holds", 3, Texts.rule(x, "first 0-ball if 1=2;".repeat(11) + "first 0-ball if not 1=1"));
+    x.force(3);
+    Check.due("may by rule 3", 1, x.may(1));
+  }
+
+  /** What the tape had behind its end is not read. */
+  private static void behindTheEnd() {
+    BallBox x = new BallBox();
+    cut(x, "row ....;ball 0 0", 6);
+    Check.due("signs behind the end", 0, x.box());
+    Check.due("columns", 2, x.count(0));
+    cut(x, "row ..;ball 1 05", 14);
+    Check.due("a digit behind the end", Texts.fault(14, 0), x.box());
+    cut(x, "row ..;ball 0 01", 15);
+    Check.due("a digit behind the end", 1, x.box());
+    cut(x, "rows", 3);
+    Check.due("a letter behind the end", Texts.fault(3, 0), x.box());
+    cut(x, "row ", 3);
+    Check.due("a blank behind the end", Texts.fault(3, 0), x.box());
+    cut(x, "first xy", 7);
+    Check.due("a letter behind the end", 0, x.rule());
+    cut(x, "first 1234567", 11);
+    Check.due("digits behind the end", 1, x.rule());
+    cut(x, "first x if x<=1", 13);
+    Check.due("= behind the end", Texts.fault(13, 0), x.rule());
+    cut(x, "row " + ".".repeat(396), 400);
+    Check.due("400 bytes", Texts.fault(10, 5), x.box());
+    cut(x, " ".repeat(400), 400);
+    Check.due("400 blanks", Texts.fault(400, 0), x.box());
+    cut(x, "first" + " ".repeat(394) + "1", 400);
+    Check.due("400 bytes", 2, x.rule());
+    cut(x, "f".repeat(400), 400);
+    Check.due("a word of 400 bytes", Texts.fault(0, 0), x.rule());
+    cut(x, "first " + "9".repeat(394), 400);
+    Check.due("a number of 394 digits", Texts.fault(6, 1), x.rule());
+  }
+
+  private static void cut(BallBox x, String text, int n) {
+    Texts.tell(x, text);
+    Check.due("end " + n, n, x.end(n));
   }
 }

@@ -50,6 +50,8 @@ public final class TurnsTest {
     Texts.box(x, "row 1..;ball 2 0");
     Check.due("first", 0, x.book());
     Check.due("again", -2, x.book());
+    Texts.box(x, "row 1..;ball 2 0");
+    Check.due("told again", -2, x.book());
     Check.due("count(10)", 1, x.count(10));
     Check.due("pain", 1, x.pain(0));
     Check.due("pain -1", -1, x.pain(-1));
@@ -66,6 +68,14 @@ public final class TurnsTest {
     x.wall(1, 0, false);
     Check.due("as the first", -2, x.book());
     Check.due("pain stays as it was reckoned", 1, x.pain(0));
+    BallBox y = Texts.boxed("row ...;row ...");
+    Check.due("two rows", 0, y.book());
+    Texts.box(y, "row ...");
+    Check.due("one row less", 1, y.book());
+    Texts.box(y, "row ..;row ..");
+    Check.due("one column less", 2, y.book());
+    Texts.box(y, "row ..;row ..;row ..");
+    Check.due("as the first", -2, y.book());
     Texts.box(x, "row .");
     Check.due("the book stays", 4, x.count(10));
     Check.due("another box", 4, x.book());
@@ -163,6 +173,8 @@ public final class TurnsTest {
     Check.due("20 times 60 tips: home by the first tip up", 20, home);
     BallBox lost = Texts.boxed("row 3..;ball 1 0;ball 2 0");
     Check.due("all are lost at the end", 40, lost.shaken(20, 60, 1));
+    Check.due("again", 40, lost.shaken(20, 60, 1));
+    Check.due("home again", 20, y.shaken(20, 60, 0));
     Check.due("none home", 0, lost.shaken(20, 60, 0));
     BallBox none = Texts.boxed("row .");
     Check.due("no balls: all are home", 7, none.shaken(7, 1, 0));
