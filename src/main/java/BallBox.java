@@ -66,16 +66,15 @@ public final class BallBox {
   }
 
   public int rule() {
-    Rule next = roller.nextRule();
-    if (next == null) {
+    if (roller.ruleCount >= Roller.MOST_RULES) {
       return NONE;
     }
-    int fault = ruleReader.read(tape, next);
+    int fault = ruleReader.read(tape);
     tape.length = 0;
     if (fault != 0) {
       return NOT_SO - fault;
     }
-    roller.ruleCount++;
+    roller.addRule(ruleReader.draft);
     return roller.ruleCount - 1;
   }
 
@@ -662,11 +661,19 @@ public final class BallBox {
     private final int[] testEnds = new int[MOST_CLAUSES];
     private final long[] stack = new long[STACK];
     private int length;
-    int clauses;
+    private int clauses;
 
     void clear() {
       length = 0;
       clauses = 0;
+    }
+
+    void takeOver(Rule other) {
+      System.arraycopy(other.code, 0, code, 0, code.length);
+      System.arraycopy(other.sumEnds, 0, sumEnds, 0, MOST_CLAUSES);
+      System.arraycopy(other.testEnds, 0, testEnds, 0, MOST_CLAUSES);
+      length = other.length;
+      clauses = other.clauses;
     }
 
     void add(int part) {
@@ -755,7 +762,7 @@ public final class BallBox {
     }
   }
 
-  /** Reads a rule's text: first all of it into tokens, then these into the rule. */
+  /** Reads a rule's text: first all of it into tokens, then these into a draft. */
   private static final class RuleReader {
     // Five bytes a word, in the order of the numbers from Rule.FIRST_WORD downwards.
     private static final String WORDS =
@@ -776,13 +783,12 @@ public final class BallBox {
     private int at;
     private int values;
     private int fault;
-    private Rule rule;
+    final Rule draft = new Rule();
 
     /** The fault, 0 if there is none. */
-    int read(Tape tape, Rule into) {
+    int read(Tape tape) {
       cutUp(tape);
-      rule = into;
-      into.clear();
+      draft.clear();
       at = 0;
       values = 0;
       fault = 0;
@@ -790,11 +796,11 @@ public final class BallBox {
       for (int clauses = 0; more && clauses <= Rule.MOST_CLAUSES; clauses++) {
         more = openClause(clauses == Rule.MOST_CLAUSES) && readSum();
         if (more) {
-          into.endSum();
+          draft.endSum();
           more = !takes(Rule.IF) || readTest(0);
         }
         if (more) {
-          into.endClause();
+          draft.endClause();
           more = closeClause();
         }
       }
@@ -802,7 +808,7 @@ public final class BallBox {
     }
 
     private boolean openClause(boolean tooMany) {
-      if (tokens[at] != Rule.FIRST) {
+      if (tokenHere() != Rule.FIRST) {
         return blame(Tape.UNFIT);
       }
       if (tooMany) {
@@ -814,14 +820,14 @@ public final class BallBox {
 
     /** Whether another clause comes. */
     private boolean closeClause() {
-      if (tokens[at] == TEXT_END) {
+      if (tokenHere() == TEXT_END) {
         return false;
       }
       return takes(Rule.CLAUSE_END) || blame(Tape.UNFIT);
     }
 
     private boolean takes(int token) {
-      if (tokens[at] != token) {
+      if (tokenHere() != token) {
         return false;
       }
       at++;
@@ -892,9 +898,14 @@ public final class BallBox {
       return Rule.PLUS - number;
     }
 
+    /** The token at which the reader is. */
+    private int tokenHere() {
+      return at < tokenCount ? tokens[at] : TEXT_END;
+    }
+
     /** Always false, so that a reader can end with it. */
     private boolean blame(int kind) {
-      if (fault == 0) {
+      if (fault == 0 && at < tokenCount) {
         fault = 1 + 8 * places[at] + kind;
       }
       return false;
@@ -907,13 +918,13 @@ public final class BallBox {
       }
       boolean orWaits = false;
       for (int i = 0; i < MOST_TOKENS; i++) {
-        int word = tokens[at];
+        int word = tokenHere();
         if (word != Rule.AND && word != Rule.OR) {
           break;
         }
         if (word == Rule.OR) {
           if (orWaits) {
-            rule.add(Rule.OR);
+            draft.add(Rule.OR);
           }
           orWaits = true;
         }
@@ -922,17 +933,17 @@ public final class BallBox {
           return false;
         }
         if (word == Rule.AND) {
-          rule.add(Rule.AND);
+          draft.add(Rule.AND);
         }
       }
       if (orWaits) {
-        rule.add(Rule.OR);
+        draft.add(Rule.OR);
       }
       return true;
     }
 
     private boolean readFact(int depth) {
-      int token = tokens[at];
+      int token = tokenHere();
       if (token != Rule.OPEN && token != Rule.NOT) {
         return readComparison();
       }
@@ -944,7 +955,7 @@ public final class BallBox {
         if (!readFact(depth + 1)) {
           return false;
         }
-        rule.add(Rule.NOT);
+        draft.add(Rule.NOT);
         return true;
       }
       if (!readTest(depth + 1)) {
@@ -957,7 +968,7 @@ public final class BallBox {
       if (!readSum()) {
         return false;
       }
-      int sign = tokens[at];
+      int sign = tokenHere();
       boolean compares = sign <= Rule.LESS && sign >= Rule.MORE
           || sign == Rule.AT_MOST || sign == Rule.AT_LEAST;
       if (!compares) {
@@ -971,7 +982,7 @@ public final class BallBox {
       if (!readSum()) {
         return false;
       }
-      rule.add(sign);
+      draft.add(sign);
       return true;
     }
 
@@ -982,14 +993,14 @@ public final class BallBox {
       }
       int waiting = 0;
       for (int i = 0; i < MOST_TOKENS; i++) {
-        int sign = tokens[at];
+        int sign = tokenHere();
         if (sign > Rule.PLUS || sign < Rule.REST) {
           break;
         }
         boolean binds = sign <= Rule.TIMES;
         if (!binds) {
           if (waiting != 0) {
-            rule.add(waiting);
+            draft.add(waiting);
           }
           waiting = sign;
         }
@@ -998,17 +1009,17 @@ public final class BallBox {
           return false;
         }
         if (binds) {
-          rule.add(sign);
+          draft.add(sign);
         }
       }
       if (waiting != 0) {
-        rule.add(waiting);
+        draft.add(waiting);
       }
       return true;
     }
 
     private boolean readValue() {
-      int token = tokens[at];
+      int token = tokenHere();
       if (token == TOO_LONG) {
         return blame(Tape.WRONG_NUMBER);
       }
@@ -1019,7 +1030,7 @@ public final class BallBox {
         return blame(Tape.TOO_MANY_VALUES);
       }
       values++;
-      rule.add(token);
+      draft.add(token);
       at++;
       return true;
     }
@@ -1287,7 +1298,7 @@ public final class BallBox {
 
   /** Tips a box: has the rules, and lines the balls up by the one in force. */
   private static final class Roller {
-    private static final int MOST_RULES = 6;
+    static final int MOST_RULES = 6;
     private static final int LONGEST_WAY = 6;
     private static final int[] STEPS = {-8, 1, 8, -1};
 
@@ -1306,9 +1317,11 @@ public final class BallBox {
       }
     }
 
-    /** The rule to be told next; null if there are 6. */
-    Rule nextRule() {
-      return ruleCount < MOST_RULES ? rules[ruleCount] : null;
+    void addRule(Rule told) {
+      if (ruleCount < MOST_RULES) {
+        rules[ruleCount].takeOver(told);
+        ruleCount++;
+      }
     }
 
     /** The situation behind a tip; hits and falls are of this tip then. */
