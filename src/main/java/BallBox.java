@@ -662,10 +662,13 @@ public final class BallBox {
     private final long[] stack = new long[STACK];
     private int length;
     private int clauses;
+    // A bit for each word that stands in it.
+    private int used;
 
     void clear() {
       length = 0;
       clauses = 0;
+      used = 0;
     }
 
     void takeOver(Rule other) {
@@ -674,12 +677,20 @@ public final class BallBox {
       System.arraycopy(other.testEnds, 0, testEnds, 0, MOST_CLAUSES);
       length = other.length;
       clauses = other.clauses;
+      used = other.used;
+    }
+
+    boolean uses(int word) {
+      return (used >> word & 1) != 0;
     }
 
     void add(int part) {
       if (length < code.length) {
         code[length] = part;
         length++;
+      }
+      if (part <= FIRST_WORD && part >= LAST_WORD) {
+        used |= 1 << FIRST_WORD - part;
       }
     }
 
@@ -1136,13 +1147,15 @@ public final class BallBox {
       }
       int situation = ALL_HOME;
       int rest = number;
+      long taken = 0;
       for (int ball = balls - 1; ball >= 0; ball--) {
         int spot = plain[rest % plainCount];
         rest = rest / plainCount;
-        if (whoLies(situation, spot) != NONE) {
+        if ((taken >>> spot & 1) != 0) {
           return NONE;
         }
-        situation = laid(situation, ball, spot);
+        taken |= 1L << spot;
+        situation |= spot << 6 * ball;
       }
       return situation;
     }
@@ -1301,6 +1314,10 @@ public final class BallBox {
     static final int MOST_RULES = 6;
     private static final int LONGEST_WAY = 6;
     private static final int[] STEPS = {-8, 1, 8, -1};
+    // Places among the words, in the order of RuleReader.WORDS.
+    private static final int AHEAD = 3;
+    private static final int HOME = 6;
+    private static final int STEPS_HOME = 7;
 
     private final Rule[] rules = new Rule[MOST_RULES];
     private final long[] words = new long[8];
@@ -1331,13 +1348,13 @@ public final class BallBox {
       if (way < 0 || way >= STEPS.length) {
         return situation;
       }
-      boolean ruled = state.force >= 0 && state.force < ruleCount;
+      boolean ruled = state.force >= 0 && state.force < ruleCount && someMeet(situation, way);
       lined = 0;
       for (int ball = 0; ball < state.balls; ball++) {
         int spot = State.spotIn(situation, ball);
         if (!State.isFallen(spot)) {
           if (ruled) {
-            tellWords(state, situation, ball, way);
+            tellWords(rules[state.force], state, situation, ball, way);
           }
           lineUp(ball, ruled ? rules[state.force].keyBy(words) : lag(spot, way));
         }
@@ -1347,6 +1364,15 @@ public final class BallBox {
         now = rollOne(state, now, order[i], STEPS[way]);
       }
       return now;
+    }
+
+    /** Whether two may lie in one line by that way: if none do, none stops another, in any order. */
+    private static boolean someMeet(int situation, int way) {
+      int line = way == 0 || way == 2 ? 7 : 56;
+      int first = situation & line;
+      int second = situation >> 6 & line;
+      int third = situation >> 12 & line;
+      return first == second || first == third || second == third;
     }
 
     /** Behind those with the same key, which have lesser numbers. */
@@ -1378,40 +1404,37 @@ public final class BallBox {
       }
     }
 
-    private void tellWords(State state, int situation, int ball, int way) {
+    /** What is dear to find is found only if the rule asks for it. */
+    private void tellWords(Rule rule, State state, int situation, int ball, int way) {
       int spot = State.spotIn(situation, ball);
       words[0] = ball;
       words[1] = State.columnOf(spot);
       words[2] = State.rowOf(spot);
-      words[3] = reach(state, situation, spot, STEPS[way]);
+      words[AHEAD] = rule.uses(AHEAD) ? reach(state, situation, spot, STEPS[way]) : 0;
       words[4] = way;
       words[5] = state.tips;
-      words[6] = state.howManyHome(situation);
-      words[7] = Math.max(0, state.stepsHome(ball, spot));
+      words[HOME] = rule.uses(HOME) ? state.howManyHome(situation) : 0;
+      words[STEPS_HOME] = rule.uses(STEPS_HOME) ? Math.max(0, state.stepsHome(ball, spot)) : 0;
     }
 
     /** By how many cells a ball can roll, the hole into which it falls being one of them. */
     private static int reach(State state, int situation, int spot, int step) {
+      int first = situation & 63;
+      int second = situation >> 6 & 63;
+      int third = situation >> 12 & 63;
       int at = spot;
       for (int far = 0; far < LONGEST_WAY; far++) {
         at += step;
-        if (isStopped(state, situation, at)) {
+        int kind = at < 0 || at >= State.SPOTS ? State.OUTSIDE : state.kinds[at];
+        boolean stopped = kind == State.WALL || kind == State.OUTSIDE;
+        if (stopped || at == first || at == second || at == third) {
           return far;
         }
-        if (state.kinds[at] >= State.FIRST_HOLE) {
+        if (kind >= State.FIRST_HOLE) {
           return far + 1;
         }
       }
       return LONGEST_WAY;
-    }
-
-    private static boolean isStopped(State state, int situation, int spot) {
-      if (spot < 0 || spot >= State.SPOTS) {
-        return true;
-      }
-      int kind = state.kinds[spot];
-      return kind == State.WALL || kind == State.OUTSIDE || spot == (situation & 63)
-          || spot == (situation >> 6 & 63) || spot == situation >> 12;
     }
 
     private int rollOne(State state, int situation, int ball, int step) {
@@ -1771,7 +1794,8 @@ public final class BallBox {
 
     private final Roller roller;
     private final int[] plain = new int[State.CELLS];
-    private final long[] cells = new long[3];
+    // Of each ball the spots in those that fit, as bits.
+    private final long[] spots = new long[3];
     // Of each way, and what would be heard, how many of those that fit make it.
     private final int[] alike = new int[4 * SOUND_KINDS];
     private int asOf = NONE;
@@ -1794,7 +1818,12 @@ public final class BallBox {
     }
 
     long cellsOf(int ball) {
-      return ball < 0 || ball >= cells.length ? 0 : cells[ball];
+      long cells = 0;
+      for (int number = 0; number < State.CELLS && ball >= 0 && ball < spots.length; number++) {
+        int spot = State.spotOf(number % 6, number / 6);
+        cells |= (spots[ball] >>> spot & 1) << number;
+      }
+      return cells;
     }
 
     /** What tells is reckoned only if it is asked, since it costs four tips more of each that fits. */
@@ -1805,7 +1834,7 @@ public final class BallBox {
       asOf = changes;
       tellsToo = alsoTells;
       fitting = 0;
-      Arrays.fill(cells, 0);
+      Arrays.fill(spots, 0);
       Arrays.fill(alike, 0);
       int plainCount = state.listPlain(plain);
       int end = State.beginningsEnd(state.balls, plainCount);
@@ -1841,7 +1870,7 @@ public final class BallBox {
       }
       fitting++;
       for (int ball = 0; ball < balls; ball++) {
-        cells[ball] |= 1L << State.numberIn(start, ball);
+        spots[ball] |= 1L << State.spotIn(start, ball);
       }
     }
 
