@@ -2,9 +2,11 @@ import java.util.Random;
 
 /** Drawn runs of calls (always the same ones), each answer beside that of the plain oracle. */
 public final class OracleTest {
+  // An object is used for at most 512 calls; what later ones answer is free.
+  private static final int MOST_CALLS = 512;
   private static int wrong;
   private static int calls;
-  private static final int[] ASKED = new int[64];
+  private static int callsOfRun;
 
   public static void main(String[] args) {
     int runs = args.length > 1 ? Integer.parseInt(args[1]) : 1500;
@@ -35,6 +37,7 @@ public final class OracleTest {
       BallBox x = new BallBox();
       Oracle o = new Oracle();
       Random r = new Random(i);
+      callsOfRun = 0;
       tell(-1 - i, r, x, o, rare[i][0], false);
       tell(-1 - i, r, x, o, rare[i][1], true);
       same(-1 - i, "force(0)", x.force(0), o.force(0));
@@ -49,6 +52,8 @@ public final class OracleTest {
   }
 
   private static void same(int run, String call, long got, long due) {
+    callsOfRun++;
+    if (callsOfRun > MOST_CALLS) return;
     calls++;
     log.append(call).append(" -> ").append(due).append('\n');
     if (got != due) {
@@ -63,12 +68,13 @@ public final class OracleTest {
     BallBox x = new BallBox();
     Oracle o = new Oracle();
     int size = 2 + r.nextInt(r.nextInt(8) == 0 ? 5 : 3);
-    int most = r.nextInt(3) == 0 ? 400 : 120;
+    int most = r.nextInt(3) == 0 ? MOST_CALLS : 120;
+    callsOfRun = 0;
     String own = Drawn.box(r, size);
     if (r.nextInt(10) != 0) tell(run, r, x, o, own, true);
     int rules = r.nextInt(3);
     for (int i = 0; i < rules; i++) tell(run, r, x, o, Drawn.rule(r), false);
-    for (int i = 0; i < most && wrong < 20; i++) {
+    for (int i = 0; i < most && callsOfRun < MOST_CALLS && wrong < 20; i++) {
       if (r.nextInt(25) == 0) {
         boolean box = r.nextInt(3) == 0;
         String text = box ? Drawn.box(r, size) : Drawn.rule(r);
@@ -104,7 +110,6 @@ public final class OracleTest {
     int b;
     int c;
     int which = r.nextInt(40);
-    ASKED[which]++;
     switch (which) {
       case 0: a = near(r, -1, 2); same(run, "force(" + a + ")", x.force(a), o.force(a)); break;
       case 1: a = near(r, 0, 5); b = near(r, 0, 5); c = near(r, 0, 1);
