@@ -39,7 +39,7 @@ final class Bases {
     x.press(1);
     x.press(2);
     x.sound(3, 1, 1);
-    x.sound(1, 2, 0);
+    x.sound(1, 1, 0);
     x.seed(77);
     x.book();
     x.image(2);
@@ -78,7 +78,7 @@ final class Bases {
     }
     for (int i = 0; i < 8; i++) {
       x.press(i % 4);
-      x.sound(i % 4, 0, 0);
+      x.sound(2, 0, 0);
     }
     for (int i = 0; i < 4; i++) {
       x.seed(10 + i);

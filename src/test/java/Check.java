@@ -5,7 +5,8 @@ import java.util.Comparator;
 
 /** Runs the tests of a class, each by its own name, and counts answers that are not as due. */
 final class Check {
-  private static String test = "";
+  private static final int LONGEST_SECONDS = 120;
+  private static volatile String test = "";
   private static int wrong;
   private static int asked;
 
@@ -41,10 +42,26 @@ final class Check {
     System.out.println((test.isEmpty() ? "" : test + ": ") + what);
   }
 
+  /** A call that does not end is a failure, too. */
+  private static void watch() {
+    Thread watcher = new Thread(() -> {
+      try {
+        Thread.sleep(LONGEST_SECONDS * 1000L);
+      } catch (InterruptedException e) {
+        return;
+      }
+      System.out.println(test + ": did not end");
+      Runtime.getRuntime().halt(1);
+    });
+    watcher.setDaemon(true);
+    watcher.start();
+  }
+
   /** Each static method without arguments whose name begins with "promise" is a test. */
   static void run(Class<?> tests) {
     Method[] all = tests.getDeclaredMethods();
     Arrays.sort(all, Comparator.comparing(Method::getName));
+    watch();
     int ran = 0;
     for (Method m : all) {
       if (m.getName().startsWith("promise") && m.getParameterCount() == 0) {

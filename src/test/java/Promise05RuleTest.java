@@ -76,7 +76,9 @@ public final class Promise05RuleTest {
     for (int i = 0; i < 8; i++) {
       Check.due("60 values and a fault", Texts.fault(126, 0), Texts.rule(x, "first 1" + "+1".repeat(59) + "+"));
     }
-    Check.due("60 values", 1, Texts.rule(x, "first 1" + "+1".repeat(59)));
+    Check.due("60 values", 1, Texts.rule(x, "first 1" + "+1".repeat(58) + "-ball"));
+    x.force(1);
+    Check.due("ball 1 first, by the last of them", 2, x.may(1));
   }
 
   static void promise5ComesWithoutABox() {

@@ -175,6 +175,23 @@ public final class Promise11TipTest {
     lies(y, 0, 0, 1);
   }
 
+  /** Two that lie side by side, in all places and in both orders: the one ahead makes room for the other one. */
+  static void promise11WithoutARuleTheFurthestFirstAnywhere() {
+    String[] boxes = {"row ......", "row .;row .;row .;row .;row .;row ."};
+    for (int i = 0; i < 5; i++) {
+      for (int order = 0; order <= 1; order++) {
+        int first = i + order;
+        int second = i + 1 - order;
+        BallBox across = Texts.boxed(boxes[0] + ";ball " + first + " 0;ball " + second + " 0");
+        Check.due("right from " + first + ", " + second, i < 4 ? 2 : 0, across.may(1));
+        Check.due("left from " + first + ", " + second, i > 0 ? 2 : 0, across.may(3));
+        BallBox down = Texts.boxed(boxes[1] + ";ball 0 " + first + ";ball 0 " + second);
+        Check.due("down from " + first + ", " + second, i < 4 ? 2 : 0, down.may(2));
+        Check.due("up from " + first + ", " + second, i > 0 ? 2 : 0, down.may(0));
+      }
+    }
+  }
+
   static void promise11ByARuleTheLeastFirst() {
     BallBox x = Texts.boxed("row ......;ball 0 0;ball 1 0;ball 2 0");
     Texts.rule(x, "first 10-ball*ball*ball");

@@ -89,6 +89,14 @@ public final class Promise16FewestTest {
         byAhead("row .1..#.;row .#....;row #..#..;row ..#..#;row ...#..;row .#..#3;ball 2 1;ball 2 4;ball 2 2"));
   }
 
+  /** Above 4000 if those in which just this ball is lost came, too. */
+  static void promise16WhicheverBallIsLost() {
+    String upper = "row #...#.;row .#....;row #..#..;row ..#..#;row ...#..;row ";
+    Check.due("ball 0", -2, byAhead(upper + ".#.2#.;ball 0 5;ball 5 5;ball 2 5"));
+    Check.due("ball 1", -2, byAhead(upper + ".#.1#.;ball 3 1;ball 5 2;ball 4 1"));
+    Check.due("ball 2", -2, byAhead(upper + ".#..#2;ball 2 4;ball 0 4;ball 2 0"));
+  }
+
   static void promise16ByTheRuleInForce() {
     BallBox x = Texts.boxed("row .#....;row .....#;row ..##..;row #...#.;row .#...#;row ...#..;ball 1 5;ball 0 5;ball 1 2");
     Check.due("never without the rule", -2, x.fewest());

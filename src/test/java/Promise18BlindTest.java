@@ -118,6 +118,21 @@ public final class Promise18BlindTest {
     blind(x, 6);
   }
 
+  static void promise18WhatWasReckonedIsReckonedAnew() {
+    BallBox x = Texts.boxed("row ..1;ball 0 0");
+    blind(x, 6, 1);
+    Texts.box(x, "row #.1;ball 1 0");
+    blind(x, 6, 1);
+    Texts.box(x, "row 1..;ball 1 0");
+    blind(x, 6, 3);
+    x.wall(2, 0, true);
+    blind(x, 6, 3);
+    Texts.box(x, "row .#1;ball 0 0");
+    none(x, 6);
+    x.wall(1, 0, false);
+    blind(x, 6, 1);
+  }
+
   static void promise18TwoBallsAndThree() {
     Check.due("two", -2, Texts.boxed("row ...;ball 0 0;ball 1 0").blind(2, 0));
     Check.due("three", -1, Texts.boxed("row ...;ball 0 0;ball 1 0;ball 2 0").blind(2, 0));

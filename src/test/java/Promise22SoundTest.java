@@ -102,7 +102,7 @@ public final class Promise22SoundTest {
     x.sound(0, 0, 0);
     x.sound(-1, 0, 0);
     x.sound(3, 1, 1);
-    x.sound(1, 2, 0);
+    x.sound(1, 1, 0);
     Check.same("the same sounds again", Whole.of(Bases.rich()), Whole.of(x));
   }
 

@@ -96,6 +96,18 @@ public final class Promise23FitsTest {
     fits(z, 6, 0, 6, 12);
   }
 
+  /** Three of five cells; to the right the one above falls, those at the left hit if there is room. */
+  static void promise23NoHitsAndFallsStandForOthers() {
+    int[][] many = {{12, 18, 0, 0}, {12, 12, 0}, {0, 6}, {0}};
+    for (int hits = 0; hits <= 3; hits++) {
+      for (int falls = 0; falls <= 3 - hits; falls++) {
+        BallBox x = Texts.boxed("row .1;row ..;row ..;ball 0 0;ball 0 1;ball 0 2");
+        x.sound(1, hits, falls);
+        Check.due(hits + " hits and " + falls + " falls", many[hits][falls], x.fits(0));
+      }
+    }
+  }
+
   static void promise23TheFirstByTheFirstBallsCell() {
     BallBox x = Texts.boxed("row ...;ball 2 0;ball 1 0;ball 0 0");
     fits(x, 6, 0, 1, 2);

@@ -67,6 +67,20 @@ public final class Promise31CountTest {
     }
   }
 
+  /** An object is used for at most 512 calls: the last of them still answers as it should. */
+  static void promise31TheLastOf512Calls() {
+    BallBox x = new BallBox();
+    x.feed(0x726F7720, 0x2E2E3B62, 0x616C6C20, 0x30203000, 0);
+    x.end(15);
+    Check.due("the third call: box()", 1, x.box());
+    for (int call = 4; call <= 509; call++) {
+      Check.due("call " + call + ": tip", 1, x.tip(call % 2 == 0 ? 1 : 3));
+    }
+    Check.due("call 510: fewest()", -2, x.fewest());
+    Check.due("call 511: image(0)", 506, x.image(0));
+    Check.due("call 512: count(5)", 506, x.count(5));
+  }
+
   static void promise31OtherWhats() {
     int[] others = {-1, 14, 15, Integer.MAX_VALUE, Integer.MIN_VALUE};
     for (int what : others) {
