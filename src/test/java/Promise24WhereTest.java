@@ -38,7 +38,7 @@ public final class Promise24WhereTest {
   }
 
   static void promise24EachBallByItself() {
-    // Up, one falls; then up, nothing more: ball 0 or 1 was below a hole.
+    // With ball 0 first they began at 0 and 2, or at 2 and 1.
     BallBox x = Gadgets.told("row ...;ball 0 0;ball 1 0", "first ball");
     x.sound(3, 1, 0);
     x.sound(1, 1, 0);

@@ -28,10 +28,12 @@ public final class Promise25TellsTest {
   }
 
   static void promise25HitsAndFallsAreNotTheSame() {
-    // To the right one rolls and one falls; by hits and falls together they would be alike.
+    // To the right it hits, does nothing, or falls, from each of three cells.
+    tells(Texts.boxed("row ..#;row .1#;ball 0 0"), 1, 1);
+  }
+
+  static void promise25HomeAndLostSoundTheSame() {
     tells(Texts.boxed("row .1;row ##;row .2;ball 0 0;ball 0 2"), 0, 2);
-    BallBox x = Texts.boxed("row ..#;row .1#;ball 0 0");
-    tells(x, 1, 1);
   }
 
   static void promise25OneTipMoreBehindTheSounds() {

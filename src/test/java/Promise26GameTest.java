@@ -61,6 +61,16 @@ public final class Promise26GameTest {
     game(x, 4, 1, 0);
   }
 
+  static void promise26ThreeTipsOfTheFirst() {
+    // Down, left and up bring one ball home each; the other one can't undo it.
+    BallBox x = Texts.boxed("row 1..;row 2#.;row .#3;ball 1 0;ball 0 2;ball 2 0");
+    Check.due("fewest", 3, x.fewest());
+    game(x, 3, 0, -2);
+    game(x, 4, 0, -2);
+    game(x, 5, 1, 2);
+    game(x, 6, 1, 2);
+  }
+
   static void promise26EightTips() {
     BallBox x = Texts.boxed("row .12.;ball 0 0;ball 3 0");
     Check.due("n 8", 1, x.game(8, 0));
@@ -74,7 +84,7 @@ public final class Promise26GameTest {
   }
 
   static void promise26LostOnTheWay() {
-    // Up and right would do, but right first loses it, and so could the other one.
+    // Up does it at once; and in the other box up and right would, but the other one tips down between.
     game(Texts.boxed("row #1#;row 2.#;row #3#;ball 1 1"), 8, 1, 0);
     game(Texts.boxed("row .1;row .2;ball 0 1"), 8, 0, -2);
   }
