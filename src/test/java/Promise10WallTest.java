@@ -113,6 +113,15 @@ public final class Promise10WallTest {
     Check.due("x", 3, x.ball(0, 0));
   }
 
+  static void promise10WhatWasReckonedIsReckonedAnewBehindAPut() {
+    BallBox x = Texts.boxed("row ..1;row ...;ball 0 0");
+    Check.due("fewest", 1, x.fewest());
+    x.wall(1, 0, true);
+    x.put(0, 0, 1);
+    Check.due("fewest: right, up", 2, x.fewest());
+    Check.due("path", 1, x.path(0));
+  }
+
   static void promise10WhatWasReckonedIsReckonedAnew() {
     BallBox x = Texts.boxed("row ..1;row ...;ball 0 0");
     Check.due("fewest", 1, x.fewest());

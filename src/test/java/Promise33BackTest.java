@@ -164,6 +164,15 @@ public final class Promise33BackTest {
     Check.due("steps", 7, x.ball(0, 3));
   }
 
+  static void promise33WhatWasReckonedIsReckonedAnewBehindAPut() {
+    BallBox x = Texts.boxed("row ..1;row ...;ball 0 0");
+    x.image(0);
+    Check.due("fewest", 1, x.fewest());
+    x.back(0);
+    x.put(0, 0, 1);
+    Check.due("fewest", 2, x.fewest());
+  }
+
   static void promise33WhatWasReckonedIsReckonedAnew() {
     BallBox x = Texts.boxed("row ..1;row ...;ball 0 1");
     x.image(0);
