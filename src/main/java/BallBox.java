@@ -1490,7 +1490,7 @@ public final class BallBox {
         return 0;
       }
       note(state.situation, NONE);
-      for (int head = 0; head < queued; head++) {
+      for (int head = 0; head < queued && head < MOST; head++) {
         for (int way = 0; way < 4; way++) {
           int next = roller.rolled(state, queue[head], way);
           if (next == State.ALL_HOME) {
